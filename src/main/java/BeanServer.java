@@ -42,6 +42,7 @@ public final class BeanServer {
     private final StringBuilder buffer = new StringBuilder();
     private final Bean[] beans = new Bean[BEANS];
     private final Query[] queries = new Query[QUERIES];
+    private int queryCount = 0;
     private final Monitor[] monitors = new Monitor[MONITORS];
     private final Log log = new Log();
     private final int[] selection = new int[BEANS];
@@ -131,11 +132,12 @@ public final class BeanServer {
         if (reader.wrong || reader.at < text.length()) {
             return BAD;
         }
-        int number = freeQuery();
-        if (number != FULL) {
-            queries[number] = new Query(new QueryForm(text).written());
+        if (queryCount >= QUERIES) {
+            return FULL;
         }
-        return number;
+        queries[queryCount] = new Query(new QueryForm(text).written());
+        queryCount++;
+        return queryCount - 1;
     }
 
     public int check(int query, int bean) {
@@ -192,13 +194,9 @@ public final class BeanServer {
         if (!isAttribute(attribute) || step < 0) {
             return BAD;
         }
-        Bean watched = beanAt(bean);
-        if (watched == null) {
-            return NONE;
-        }
-        int number = freeMonitor();
-        if (number != FULL) {
-            monitors[number] = new Counter(watched.name.form, attribute, start, step);
+        int number = numberForMonitorOf(bean);
+        if (number >= 0) {
+            monitors[number] = new Counter(beans[bean].name.form, attribute, start, step);
         }
         return number;
     }
@@ -207,13 +205,9 @@ public final class BeanServer {
         if (!isAttribute(attribute) || low >= high) {
             return BAD;
         }
-        Bean watched = beanAt(bean);
-        if (watched == null) {
-            return NONE;
-        }
-        int number = freeMonitor();
-        if (number != FULL) {
-            monitors[number] = new Gauge(watched.name.form, attribute, low, high);
+        int number = numberForMonitorOf(bean);
+        if (number >= 0) {
+            monitors[number] = new Gauge(beans[bean].name.form, attribute, low, high);
         }
         return number;
     }
@@ -256,7 +250,7 @@ public final class BeanServer {
         return text;
     }
 
-    /** The buffer's name; null if it holds none. */
+    /** The name that the buffer holds; null if it holds none. */
     private Pattern takenName() {
         Pattern name = patternIn(taken());
         return name != null && name.isName() ? name : null;
@@ -264,7 +258,7 @@ public final class BeanServer {
 
     private static Pattern patternIn(String text) {
         Pattern pattern = new Pattern(text);
-        return pattern.isRead() ? pattern : null;
+        return pattern.parse() ? pattern : null;
     }
 
     private static boolean isAttribute(int attribute) {
@@ -287,7 +281,7 @@ public final class BeanServer {
     }
 
     private Query queryAt(int number) {
-        return number < 0 || number >= QUERIES ? null : queries[number];
+        return number < 0 || number >= queryCount ? null : queries[number];
     }
 
     private Monitor monitorAt(int number) {
@@ -312,16 +306,11 @@ public final class BeanServer {
         return FULL;
     }
 
-    private int freeQuery() {
-        for (int i = 0; i < QUERIES; i++) {
-            if (queries[i] == null) {
-                return i;
-            }
+    /** The number of a new monitor for a bean, or why there can be none. */
+    private int numberForMonitorOf(int bean) {
+        if (beanAt(bean) == null) {
+            return NONE;
         }
-        return FULL;
-    }
-
-    private int freeMonitor() {
         for (int i = 0; i < MONITORS; i++) {
             if (monitors[i] == null) {
                 return i;
@@ -383,12 +372,12 @@ public final class BeanServer {
         }
 
         /** Reads the text; false if it is no pattern. */
-        boolean isRead() {
+        boolean parse() {
             domainEnd = rowEnd(0);
             if (domainEnd > DOMAIN_LENGTH || domainEnd >= text.length() || text.charAt(domainEnd) != ':') {
                 return false;
             }
-            if (!isListRead(domainEnd + 1)) {
+            if (!parseList(domainEnd + 1)) {
                 return false;
             }
             form = ordered();
@@ -429,14 +418,14 @@ public final class BeanServer {
             return c >= 'a' && c <= 'z' || c >= '0' && c <= '9' || c == '?' || c == '*';
         }
 
-        private boolean isListRead(int from) {
+        private boolean parseList(int from) {
             int at = from;
             for (int parts = 0; parts <= KEYS && at < text.length(); parts++) {
                 if (text.charAt(at) == '*') {
                     open = true;
                     return at + 1 == text.length();
                 }
-                int end = propertyEnd(at);
+                int end = parseProperty(at);
                 if (end == text.length()) {
                     return true;
                 }
@@ -449,7 +438,7 @@ public final class BeanServer {
         }
 
         /** Keeps the property pattern that starts here, and tells where it ends; below 0 if there is none. */
-        private int propertyEnd(int at) {
+        private int parseProperty(int at) {
             int start = at + 2;
             if (start >= text.length() || text.charAt(at + 1) != '=') {
                 return BAD;

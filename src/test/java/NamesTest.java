@@ -92,7 +92,7 @@ public final class NamesTest {
         String[] bad = {"", ":", "a", "a:", ":a=b", "a:a", "a:a=", "a:=b", "a:a=b,", "a:,a=b", "a:a=b,,c=d",
             "a:a=b,c", "abcdefg:a=b", "a:a=bcdef", "a:ab=c", "a:A=b", "A:a=b", "a:a=B", "a:1=b", "a:a=b,a=c",
             "a:a=b,c=d,a=b", "a a:a=b", "a:a=b c", " a:a=b", "a:a=b ", "a:a=b:c", "a::a=b", "a:a==b", "a:a=b=c",
-            "a?:a=b", "a*:a=b", "a:a=?", "a:a=*", "a:*", "a:a=b,*", "*:a=b", "?:*", "a:a=b;c=d", "a:{=b", "a:`=b",
+            "a?:a=b", "a*:a=b", "a:a=?", "a:a=*", "a:*", "a:a=b,*", "*:a=b", "?:a=b", "?:*", "a:a=b;c=d", "a:{=b", "a:`=b",
             "a:a=`", "a:a={", "a:a=/", "a:a=:", "`:a=b", "{:a=b", "/:a=b", ";:a=b", "a:?=b"};
         for (String name : bad) {
             Desk desk = new Desk();

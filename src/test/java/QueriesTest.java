@@ -253,6 +253,9 @@ public final class QueriesTest {
         hasForm("((a=1&b=1)|c=1)&d=1", "(a=1&b=1|c=1)&d=1");
         hasForm("(a=1|b=1)&c=1|d=1", "(a=1|b=1)&c=1|d=1");
         hasForm("d=1|(a=1|b=1)&c=1", "d=1|(a=1|b=1)&c=1");
+        hasForm("((((((((a=1))))))))", "a=1");
+        hasForm("!(!(!(!(a=1&b=1))))", "!!!!(a=1&b=1)");
+        hasForm("((((((((a=1|b=1))))))))&c=1", "(a=1|b=1)&c=1");
         hasForm("!(a=1)", "!a=1");
         hasForm("!((a=1))", "!a=1");
         hasForm("!(!(a=1))", "!!a=1");
