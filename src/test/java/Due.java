@@ -1,25 +1,27 @@
 /** Compares answers with those that are due, and ends a test with exit code 1 if one was wrong. */
 final class Due {
+    private String words = "";
     private int wrong = 0;
     private int compared = 0;
 
+    /** The document's words that the answers from here on are due to. */
+    void by(String words) {
+        this.words = words;
+    }
+
     void is(String call, long got, long due) {
-        compared++;
-        if (got != due) {
-            wrong++;
-            System.out.println(call + " answered " + got + ", due is " + due);
-        }
+        is(call, Long.toString(got), Long.toString(due));
     }
 
     void is(String call, boolean got, boolean due) {
-        is(call, got ? 1 : 0, due ? 1 : 0);
+        is(call, Boolean.toString(got), Boolean.toString(due));
     }
 
     void is(String call, String got, String due) {
         compared++;
         if (!got.equals(due)) {
             wrong++;
-            System.out.println(call + " answered " + got + ", due is " + due);
+            System.out.println("\"" + words + "\": " + call + " answered " + got + ", due is " + due);
         }
     }
 
