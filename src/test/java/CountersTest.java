@@ -1,15 +1,11 @@
-/** "Terms": COUNTER, and promise 14: counter. */
+/** "Terms": COUNTER, with promise 14's step; NewMonitorsTest has the rest of promise 14. */
 public final class CountersTest {
     private static final Due due = new Due();
     private static final int MIN = Integer.MIN_VALUE;
     private static final int MAX = Integer.MAX_VALUE;
 
     public static void main(String[] args) {
-        attributes();
         steps();
-        beans();
-        sixMonitors();
-        codesInOrder();
         markIsStartAtFirst();
         readyAtFirst();
         reachedAtTheMark();
@@ -53,26 +49,6 @@ public final class CountersTest {
         due.is("observe without the attribute", desk.observe(), 1);
     }
 
-    private static void attributes() {
-        due.by("counter: BAD: attribute isn't 0 .. 4");
-        Desk desk = withBean();
-        int[] none = {-1, 5, 6, MIN, MAX};
-        for (int attribute : none) {
-            due.is("attribute " + attribute, desk.counter(0, attribute, 0, 1), BeanServer.BAD);
-        }
-        for (int attribute = 0; attribute < 5; attribute++) {
-            due.is("attribute " + attribute, desk.counter(0, attribute, 7, 0), attribute);
-        }
-        due.is("all err at first", desk.observe(), 5);
-        for (int attribute = 0; attribute < 5; attribute++) {
-            desk.set(0, attribute, 7);
-            desk.observe();
-            due.is("the attribute that is observed", desk.notice(0, 2), attribute);
-            due.is("it is reached", desk.notice(0, 1), 2);
-            desk.unset(0, attribute);
-        }
-    }
-
     private static void steps() {
         due.by("STEP (0 or more); BAD: step is below 0");
         int[] below = {-1, -2, MIN};
@@ -87,44 +63,6 @@ public final class CountersTest {
         for (int start : starts) {
             due.is("start " + start, withBean().counter(0, 0, start, 0), 0);
         }
-    }
-
-    private static void beans() {
-        due.by("counter: NONE: there is no such bean");
-        Desk desk = withBean();
-        desk.register("m:k=2");
-        desk.unregister("m:k=1");
-        int[] none = {-1, 0, 2, 11, 12, MIN, MAX};
-        for (int bean : none) {
-            due.is("bean " + bean, desk.counter(bean, 0, 0, 1), BeanServer.NONE);
-        }
-        due.is("bean 1", desk.counter(1, 0, 0, 1), 0);
-    }
-
-    private static void sixMonitors() {
-        due.by("counter: FULL: 6 monitors are there");
-        Desk desk = withBean();
-        for (int i = 0; i < 6; i++) {
-            due.is("counter " + i, desk.counter(0, 0, 0, 0), i);
-        }
-        due.is("the 7th", desk.counter(0, 0, 0, 0), BeanServer.FULL);
-        desk.cancel(5);
-        due.is("when one is gone", desk.counter(0, 0, 0, 0), 5);
-        due.is("no notices of these", desk.listen(63), 1);
-    }
-
-    private static void codesInOrder() {
-        due.by("counter: BAD, then NONE, then FULL");
-        Desk desk = withBean();
-        due.is("BAD before NONE, by attribute", desk.counter(1, 5, 0, 1), BeanServer.BAD);
-        due.is("BAD before NONE, by step", desk.counter(1, 0, 0, -1), BeanServer.BAD);
-        for (int i = 0; i < 6; i++) {
-            desk.gauge(0, 0, 0, 1);
-        }
-        due.is("BAD before FULL, by attribute", desk.counter(0, -1, 0, 1), BeanServer.BAD);
-        due.is("BAD before FULL, by step", desk.counter(0, 0, 0, -1), BeanServer.BAD);
-        due.is("NONE before FULL", desk.counter(1, 0, 0, 0), BeanServer.NONE);
-        due.is("FULL", desk.counter(0, 0, 0, 0), BeanServer.FULL);
     }
 
     private static void markIsStartAtFirst() {

@@ -215,16 +215,19 @@ public final class FormsTest {
         }
     }
 
+    private static void areNone(Desk desk, int what, int... numbers) {
+        for (int n : numbers) {
+            due.is("form " + what + " " + n + " 0", desk.form(what, n, 0), BeanServer.NONE);
+            due.is("form " + what + " " + n + " -1", desk.form(what, n, -1), BeanServer.NONE);
+        }
+    }
+
     private static void numbersOfBeans() {
         due.by("what 0 the name of bean n; NONE if there is no such one");
         Desk desk = Scenes.sparse();
         due.is("bean 0", desk.form(0, 0), "s:n=0");
         due.is("bean 3", desk.form(0, 3), "s:n=3");
-        int[] none = {-1, 1, 4, 11, 12, Integer.MIN_VALUE, Integer.MAX_VALUE};
-        for (int n : none) {
-            due.is("bean " + n, desk.form(0, n, 0), BeanServer.NONE);
-            due.is("length of bean " + n, desk.form(0, n, -1), BeanServer.NONE);
-        }
+        areNone(desk, 0, -1, 1, 4, 11, 12, Integer.MIN_VALUE, Integer.MAX_VALUE);
         Desk full = Scenes.full();
         due.is("bean 11", full.form(0, 11), "f:n=11");
         due.is("bean 12", full.form(0, 12), "none");
@@ -235,11 +238,7 @@ public final class FormsTest {
         Desk desk = Scenes.sparse();
         due.is("query 0", desk.form(1, 0), "1=1");
         due.is("query 2", desk.form(1, 2), "(a=1|b=1)&c=2");
-        int[] none = {-1, 3, 5, 6, Integer.MIN_VALUE, Integer.MAX_VALUE};
-        for (int n : none) {
-            due.is("query " + n, desk.form(1, n, 0), BeanServer.NONE);
-            due.is("length of query " + n, desk.form(1, n, -1), BeanServer.NONE);
-        }
+        areNone(desk, 1, -1, 3, 5, 6, Integer.MIN_VALUE, Integer.MAX_VALUE);
         Desk full = Scenes.full();
         due.is("query 5", full.form(1, 5), "!c=3");
         due.is("query 6", full.form(1, 6), "none");
@@ -268,8 +267,7 @@ public final class FormsTest {
         Desk desk = withOneOfEach();
         int[] none = {-1, 3, 4, Integer.MIN_VALUE, Integer.MAX_VALUE};
         for (int what : none) {
-            due.is("what " + what, desk.form(what, 0, 0), BeanServer.NONE);
-            due.is("length of what " + what, desk.form(what, 0, -1), BeanServer.NONE);
+            areNone(desk, what, 0);
         }
     }
 }

@@ -1,4 +1,4 @@
-/** "Terms": GAUGE, and promise 15: gauge. */
+/** "Terms": GAUGE, with promise 15's bounds; NewMonitorsTest has the rest of promise 15. */
 public final class GaugesTest {
     private static final Due due = new Due();
     private static final int MIN = Integer.MIN_VALUE;
@@ -8,11 +8,7 @@ public final class GaugesTest {
     private static final int LOW = 4;
 
     public static void main(String[] args) {
-        attributes();
         lowLessThanHigh();
-        beans();
-        sixMonitors();
-        codesInOrder();
         noSideAtFirst();
         highOrMore();
         lowOrLess();
@@ -47,26 +43,6 @@ public final class GaugesTest {
         }
     }
 
-    private static void attributes() {
-        due.by("gauge: BAD: attribute isn't 0 .. 4");
-        Desk desk = withBean();
-        int[] none = {-1, 5, 6, MIN, MAX};
-        for (int attribute : none) {
-            due.is("attribute " + attribute, desk.gauge(0, attribute, 0, 1), BeanServer.BAD);
-        }
-        for (int attribute = 0; attribute < 5; attribute++) {
-            due.is("attribute " + attribute, desk.gauge(0, attribute, 0, 7), attribute);
-        }
-        due.is("all err at first", desk.observe(), 5);
-        for (int attribute = 0; attribute < 5; attribute++) {
-            desk.set(0, attribute, 7);
-            desk.observe();
-            due.is("the attribute that is observed", desk.notice(0, 2), attribute);
-            due.is("it is high", desk.notice(0, 1), HIGH);
-            desk.unset(0, attribute);
-        }
-    }
-
     private static void lowLessThanHigh() {
         due.by("LOW < HIGH; BAD: low isn't less than high");
         int[][] bad = {{0, 0}, {1, 0}, {0, -1}, {7, 7}, {MIN, MIN}, {MAX, MAX}, {MAX, MIN}, {MIN + 1, MIN}, {MAX, MAX - 1}};
@@ -77,44 +53,6 @@ public final class GaugesTest {
         for (int[] bounds : right) {
             due.is("gauge " + bounds[0] + " " + bounds[1], withBean().gauge(0, 0, bounds[0], bounds[1]), 0);
         }
-    }
-
-    private static void beans() {
-        due.by("gauge: NONE: there is no such bean");
-        Desk desk = withBean();
-        desk.register("m:k=2");
-        desk.unregister("m:k=1");
-        int[] none = {-1, 0, 2, 11, 12, MIN, MAX};
-        for (int bean : none) {
-            due.is("bean " + bean, desk.gauge(bean, 0, 0, 1), BeanServer.NONE);
-        }
-        due.is("bean 1", desk.gauge(1, 0, 0, 1), 0);
-    }
-
-    private static void sixMonitors() {
-        due.by("gauge: FULL: 6 monitors are there");
-        Desk desk = withBean();
-        for (int i = 0; i < 6; i++) {
-            due.is("gauge " + i, desk.gauge(0, 0, 0, 1), i);
-        }
-        due.is("the 7th", desk.gauge(0, 0, 0, 1), BeanServer.FULL);
-        desk.cancel(0);
-        due.is("when one is gone", desk.gauge(0, 0, 0, 1), 0);
-        due.is("no notices of these", desk.listen(63), 1);
-    }
-
-    private static void codesInOrder() {
-        due.by("gauge: BAD, then NONE, then FULL");
-        Desk desk = withBean();
-        due.is("BAD before NONE, by attribute", desk.gauge(1, 5, 0, 1), BeanServer.BAD);
-        due.is("BAD before NONE, by bounds", desk.gauge(1, 0, 1, 1), BeanServer.BAD);
-        for (int i = 0; i < 6; i++) {
-            desk.counter(0, 0, 0, 1);
-        }
-        due.is("BAD before FULL, by attribute", desk.gauge(0, -1, 0, 1), BeanServer.BAD);
-        due.is("BAD before FULL, by bounds", desk.gauge(0, 0, 1, 1), BeanServer.BAD);
-        due.is("NONE before FULL", desk.gauge(1, 0, 0, 1), BeanServer.NONE);
-        due.is("FULL", desk.gauge(0, 0, 0, 1), BeanServer.FULL);
     }
 
     private static void noSideAtFirst() {

@@ -12,6 +12,8 @@ public final class RandomRunsTest {
 
     private final Due due;
     private final Random random;
+    /** Whether texts are short: then more of the 512 calls are left to fill the server. */
+    private final boolean brief;
     private final BeanServer server = new BeanServer();
     private final Model model = new Model();
     private final StringBuilder calls = new StringBuilder();
@@ -20,6 +22,7 @@ public final class RandomRunsTest {
     private RandomRunsTest(Due due, long seed) {
         this.due = due;
         this.random = new Random(seed);
+        this.brief = seed % 2 == 0;
     }
 
     public static void main(String[] args) {
@@ -51,8 +54,10 @@ public final class RandomRunsTest {
     }
 
     private void is(String call, long got, long want) {
-        calls.append(' ').append(call);
-        due.is(call, got, want);
+        if (left > 0) {
+            calls.append(' ').append(call);
+            due.is(call, got, want);
+        }
         left--;
     }
 
@@ -87,7 +92,7 @@ public final class RandomRunsTest {
     }
 
     private void define() {
-        write(spoilt(queryText(3)));
+        write(spoilt(brief ? oneText(0) : queryText(3)));
         is("define", server.define(), model.define());
         readWholeForm(1, query());
     }
@@ -157,7 +162,7 @@ public final class RandomRunsTest {
 
     /** Mostly one of the first few, so that calls meet what is there. */
     private int bean() {
-        return random.nextInt(20) == 0 ? EDGES[random.nextInt(EDGES.length)] : random.nextInt(4);
+        return random.nextInt(20) == 0 ? EDGES[random.nextInt(EDGES.length)] : random.nextInt(brief ? 12 : 4);
     }
 
     private int query() {
@@ -176,7 +181,17 @@ public final class RandomRunsTest {
         return texts[random.nextInt(texts.length)];
     }
 
+    private String briefNameText(boolean isPattern) {
+        if (isPattern) {
+            return oneOf("*:*", "?:*", "a:*", "?:k=?", "*:b=*,*", ":*");
+        }
+        return oneOf("a:", "b:") + oneOf("k=", "b=") + oneOf("0", "1", "2", "3", "4");
+    }
+
     private String nameText(boolean isPattern) {
+        if (brief) {
+            return briefNameText(isPattern);
+        }
         String domain = isPattern ? oneOf("*", "?", "a*", "*b", "?*", "a", "ab", "*?b*", "") : oneOf("a", "ab", "b");
         List<String> properties = new ArrayList<>();
         for (String key : List.of("k", "b", "z")) {
