@@ -115,13 +115,8 @@ public final class BufferTest {
     /** A taking call on a server where all is full, with its answer: then the buffer is empty. */
     private static void takes(String text, ToIntFunction<Desk> call, int answer) {
         Desk desk = Scenes.full();
-        desk.text(text);
-        due.is("the call after " + text, call.applyAsInt(desk), answer);
-        due.is("find with what is left of " + text, desk.find(), BeanServer.BAD);
-        Desk next = Scenes.full();
-        call.applyAsInt(next.text(text));
-        due.is("define a text that is none alone, after " + text, next.define("=1"), BeanServer.BAD);
-        due.is("find, after " + text, next.find("f:n=11"), 11);
+        due.is("the call after " + text, call.applyAsInt(desk.text(text)), answer);
+        due.is("find a name behind what is left of " + text, desk.find("f:n=11"), 11);
     }
 
     private static void takenWhateverIsAnswered() {
@@ -129,12 +124,15 @@ public final class BufferTest {
         takes("f:n=0", Desk::find, 0);
         takes("f:n=x", Desk::find, BeanServer.NONE);
         takes("f:n", Desk::find, BeanServer.BAD);
+        takes("f:*", Desk::find, BeanServer.BAD);
         takes("f:n=0", Desk::unregister, 0);
         takes("f:n=x", Desk::unregister, BeanServer.NONE);
         takes("f:n", Desk::unregister, BeanServer.BAD);
+        takes("f:*", Desk::unregister, BeanServer.BAD);
         takes("f:n=0", Desk::register, BeanServer.EXISTS);
         takes("f:n=x", Desk::register, BeanServer.FULL);
         takes("f:n", Desk::register, BeanServer.BAD);
+        takes("f:*", Desk::register, BeanServer.BAD);
         takes("a=1", Desk::define, BeanServer.FULL);
         takes("!!!!!!!!!a=1", Desk::define, BeanServer.FULL);
         takes("a", Desk::define, BeanServer.BAD);
@@ -176,6 +174,12 @@ public final class BufferTest {
         leaves("mark", desk -> desk.mark(0));
         leaves("listen", desk -> desk.listen(0));
         leaves("notice", desk -> desk.notice(0, 0));
+        leaves("a refused set", desk -> desk.set(12, 0, 1));
+        leaves("a refused unset", desk -> desk.unset(0, 5));
+        leaves("a check of none", desk -> desk.check(6, 0));
+        leaves("a counter that is BAD", desk -> desk.counter(0, 5, 0, 0));
+        leaves("a gauge for no bean", desk -> desk.gauge(12, 0, 0, 1));
+        leaves("a refused cancel", desk -> desk.cancel(6));
     }
 
     private static void theLastCallThatIsPromised() {
