@@ -17,10 +17,12 @@ public final class FaceTest {
         "boolean cancel(int)", "int observe()", "long mark(int)", "int listen(int)", "int notice(int,int)"};
 
     public static void main(String[] args) throws IllegalAccessException {
+        due.by("The constants");
         due.is("BAD", BeanServer.BAD, -1);
         due.is("NONE", BeanServer.NONE, -2);
         due.is("EXISTS", BeanServer.EXISTS, -3);
         due.is("FULL", BeanServer.FULL, -4);
+        due.by("The public face; rule 1: no other public, protected or package-visible member");
         due.is("modifiers", Modifier.toString(BeanServer.class.getModifiers()), "public final");
         due.is("fields", visibleFields(), "BAD EXISTS FULL NONE ");
         due.is("constructors", constructors(), "public BeanServer() ");
