@@ -12,6 +12,7 @@ public final class NoticesTest {
         eachKindHasItsBit();
         otherBitsDoNothing();
         kindsSourcesAndValues();
+        whatIsTold();
         listenTellsHowManyWereGiven();
         placesThatAreNone();
         whatThatIsNone();
@@ -189,6 +190,22 @@ public final class NoticesTest {
         due.is("LOW", desk.notice(2), "5 4 2 -2147483648");
         due.is("REACHED", desk.notice(1), "6 2 3 2147483647");
         due.is("GONE", desk.notice(0), "7 1 1 0");
+    }
+
+    private static void whatIsTold() {
+        due.by("what 0 its number, 1 its kind, 2 its source, 3 its value");
+        Desk desk = new Desk();
+        desk.register("a:a=1");
+        desk.set(0, 0, 77);
+        desk.gauge(0, 1, 0, 1);
+        desk.counter(0, 0, 70, 5);
+        due.is("an error and a mark that is reached", desk.observe(), 2);
+        int[][] told = {{3, 2, 1, 77}, {2, 5, 0, 0}, {1, 0, 0, 0}};
+        for (int k = 0; k < told.length; k++) {
+            for (int what = 0; what < 4; what++) {
+                due.is("notice " + k + " " + what, desk.notice(k, what), told[k][what]);
+            }
+        }
     }
 
     private static void listenTellsHowManyWereGiven() {

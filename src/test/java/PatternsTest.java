@@ -17,6 +17,7 @@ public final class PatternsTest {
         star();
         othersStandForThemselves();
         starsAndQuestionMarksTogether();
+        domainAsThePatternSays();
         eachKeyOfThePattern();
         noOtherKeysUnlessOpen();
         formOfPatterns();
@@ -240,6 +241,20 @@ public final class PatternsTest {
         fits("a:a=*?x", "a:a=xxx", true);
     }
 
+    private static void domainAsThePatternSays() {
+        due.by("A name FITS if its domain is as the domain pattern says");
+        String[] lists = {"*", "k=v", "k=?", "k=*,*"};
+        for (String list : lists) {
+            fits("shop:" + list, "shop:k=v", true);
+            fits("s*p:" + list, "shop:k=v", true);
+            fits("s??p:" + list, "shop:k=v", true);
+            fits("shop:" + list, "shop1:k=v", false);
+            fits("s*p:" + list, "spa:k=v", false);
+            fits("s??p:" + list, "shp:k=v", false);
+            fits(":" + list, "shop:k=v", false);
+        }
+    }
+
     private static void eachKeyOfThePattern() {
         due.by("each key of the pattern is one of its keys, with a value as the value pattern says");
         fits("a:a=1,b=2", "a:a=1,b=2", true);
@@ -258,7 +273,7 @@ public final class PatternsTest {
     }
 
     private static void noOtherKeysUnlessOpen() {
-        due.by("if the list isn't open, it has no other keys");
+        due.by("(both lists with a * are OPEN) .. if the list isn't open, it has no other keys");
         fits("a:a=1", "a:a=1,b=2", false);
         fits("a:a=1,*", "a:a=1,b=2", true);
         fits("a:a=1,*", "a:a=1", true);
